@@ -30,7 +30,7 @@ public final class WhereTheSpoonWent {
     private int textCount;
     private final Reader reader = new Reader();
     private final Sheet[] sheets = new Sheet[SHEETS];
-    private final Flight flight = new Flight();
+    private final Flight flight = new Flight(now);
     private final int[] path = new int[MOST_STEPS + 1];
     private final int[] far = new int[CELLS];
     private final int[] queue = new int[CELLS];
@@ -698,7 +698,6 @@ public final class WhereTheSpoonWent {
 
     /** There is one flight only: what it held before is gone. */
     private Flight lift(int t) {
-        flight.house = now;
         flight.law = law();
         flight.nets = now.nets;
         flight.number = t;
@@ -1006,10 +1005,14 @@ public final class WhereTheSpoonWent {
 
     /** One THING in thought. It has nets of its own, so that one can be tried that isn't there. */
     private static final class Flight {
-        House house;
+        final House house;
         Text law;
         Thing kind;
         int nets, number, more, cell, way;
+
+        Flight(House house) {
+            this.house = house;
+        }
 
         void passAll(int step, int n) {
             for (int i = 0; i < n; i++) {

@@ -43,9 +43,14 @@ public final class HandTest {
         for (int c : new int[] {7, 8, 9, 10}) {
             x.house(0, c, 1);
         }
-        d.due("hand: round the walls", x.hand(2, 0), 7);
+        d.due("hand: past the walls", x.hand(2, 0), 7);
+        x.put(0, 14, 4);
+        d.due("hand: round the walls", x.hand(2, 0), 8);
+        x.put(0, 29, 4);
         x.house(0, 6, 1);
         d.due("hand: walled in", x.hand(0, 0), -1);
+        x = with(0, 0, 4);
+        d.due("hand: cell 0", x.hand(29, 0), 9);
         x = with(0, 0, 1);
         d.due("hand: it comes", x.hand(29, 0), 5);
         d.due("hand: it goes away", x.hand(0, 0), 0);
@@ -175,6 +180,7 @@ public final class HandTest {
         d.due("toss: what", x.toss(0, 0, 2), -7);
         d.due("toss: what -1", x.toss(0, 0, -1), -7);
         d.due("toss: 2929", x.toss(0, 2929, 1), 0);
+        d.due("toss: 0", x.toss(0, 0, 1), 0);
         x.house(2, 14, 1);
         law(x, "2", "0", "0");
         d.due("toss: of like ones the first", x.toss(0, 1420, 0), 0);

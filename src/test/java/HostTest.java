@@ -224,6 +224,7 @@ public final class HostTest {
             d.due("taken: no such thing", x.taken(32, kind), -11);
         }
         d.due("taken: no such thing for a cell", x.taken(34, 6), -11);
+        d.due("taken: the first thing", x.taken(30, 0), 0);
         d.due("taken: kind ahead of the place", x.taken(35, 7), -2);
         d.due("taken: kind -1", x.taken(0, -1), -2);
         d.due("taken: place 35", x.taken(35, 0), -12);

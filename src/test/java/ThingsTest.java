@@ -136,6 +136,8 @@ public final class ThingsTest {
         goes("sticky, 3", blown(10, 1, "3"), 141, 133, 123, 124);
         goes("cat, 1", blown(47, 1, "1"), 141, 133, 123, 120);
         goes("cat, 0", blown(47, 4, "0"), 144, 202, 262);
+        goes("cat, 2", blown(47, 1, "2"), 141, 80, 20);
+        goes("cat, 3", blown(47, 0, "3"), 140, 151, 161);
         goes("cat, 4", blown(47, 1, "4"), 141, 151, 161);
         goes("cat, 4, still", blown(47, 4, "4"), 144, 144);
         goes("heavy, 0", blown(50, 1, "0"), 141, 151, 161);
@@ -215,6 +217,9 @@ public final class ThingsTest {
         x.run(1);
         d.due("run: THE STEP stays 99", x.count(4), 99);
         d.due("run: kind as it was", x.told(2, 2), 3);
+        x.thing(0, 0, 2);
+        d.due("run: five", x.run(1), 2);
+        d.due("run: the fifth", x.told(4, 0), 6);
     }
 
     private static void promise14When() {

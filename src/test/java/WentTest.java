@@ -72,6 +72,9 @@ public final class WentTest {
         d.due("look: a corner", x.look(0, 1, 1), 3);
         x = with(0, 29, 4);
         d.due("look: the last corner", x.look(0, 1, 0), 29);
+        x.put(0, 1, 0);
+        d.due("look: cell 1", x.look(0, 1, 0), 1);
+        d.due("look: cell 1", x.look(0, 1, 1), 2);
         d.due("look: thing ahead of n", x.look(1, 41, 2), -5);
         d.due("look: thing -1", x.look(-1, 0, 0), -5);
         d.due("look: n", x.look(0, 41, 0), -7);
@@ -235,6 +238,10 @@ public final class WentTest {
         d.due("film: a missing one", x.film(2, 40), 3);
         d.due("film: a missing one", x.judge(2, 40), -1);
         d.due("film: the things stay", x.told(0, 0), 0);
+        x.thing(0, 7, 4);
+        x.thing(0, 8, 4);
+        d.due("film: five", x.film(3, 1), 5);
+        d.due("film: five", x.judge(3, 1), -1);
         x = new WhereTheSpoonWent();
         d.due("film: no things", x.film(0, 0), 0);
         d.due("film: no things", x.judge(0, 0), -1);
