@@ -2,6 +2,7 @@ import java.io.IOException;
 import java.nio.file.Files;
 import java.nio.file.Path;
 import java.util.ArrayList;
+import java.util.Arrays;
 import java.util.List;
 import java.util.Map;
 import java.util.TreeMap;
@@ -20,12 +21,21 @@ final class Doc {
             this.held = new boolean[this.text.length()];
         }
 
+        /** Wherever these words stand as such: "n" is not in "none". */
         boolean hold(String words) {
-            int at = text.indexOf(words);
-            for (int from = at; from >= 0; from = text.indexOf(words, from + 1)) {
-                java.util.Arrays.fill(held, from, from + words.length(), true);
+            boolean stands = false;
+            for (int from = text.indexOf(words); from >= 0; from = text.indexOf(words, from + 1)) {
+                if (!isWithinWord(from) && !isWithinWord(from + words.length())) {
+                    Arrays.fill(held, from, from + words.length(), true);
+                    stands = true;
+                }
             }
-            return at >= 0;
+            return stands;
+        }
+
+        private boolean isWithinWord(int at) {
+            return at > 0 && at < text.length() && Character.isLetterOrDigit(text.charAt(at - 1))
+                && Character.isLetterOrDigit(text.charAt(at));
         }
 
         List<String> left() {

@@ -50,6 +50,9 @@ final class EdgesOfTheLaw {
         e.test(6, "(by a FAULT, too)",
             "text 'blows ^$ ;'", "count(7) = 0", "text '" + LAW + "' = 1", "text 'blows ^'", "count(7) = 0",
             "text() = -100");
+        e.test(6, "(by a FAULT, too)",
+            "text 'blows 2;worth 3;hands 4*^;'", "text 'blows 1 ^$'", "text 'blows 3;worth 7;hands 2;' = 1",
+            "force(1) = 0", "asks(0, 0, 0, 0) = 3", "asks(1, 0, 0, 0) = 7", "asks(2, 0, 0, 0) = 2");
         e.test(6, "is a TEXT: its number",
             "text '" + LAW + "' = 1", "text 'blows ^' = -106", "text 'blows 0;worth 9;hands 0;' = 2", "force(2) = 0",
             "asks(1, 0, 0, 0) = 9", "force(1) = 2", "asks(1, 0, 0, 0) = 2", "count(5) = 3");
@@ -70,8 +73,8 @@ final class EdgesOfTheLaw {
         e.test(6, "FULL (ahead of the FAULT", behindFive("text 'blows $' = FULL", "text() = FULL"));
         e.test(6, "then THE TAPE stays)", behindFive("text 'blows $' = FULL", "count(7) = 7", "text() = FULL",
             "count(7) = 7", "feed(1, 32, 0, 0, 0, 0) = 8"));
-        e.test(6, "They change nothing, but where it is told", behindFive("force(5) = 0", "text '" + LAW
-            + "' = FULL", "count(5) = 6", "count(6) = 5", "asks(1, 0, 0, 0) = 15"));
+        e.test(6, "They change nothing, but where it is told", behindFive("force(5) = 0", "text '" + LAW + "' = FULL",
+            "count(5) = 6", "count(6) = 5", "asks(1, 0, 0, 0) = 15"));
         e.test(6, "They change nothing, but where it is told",
             "text 'blows 0;worth 77;hands 0;' = 1", "force(1) = 0", "text 'blows 0;worth 66;hands 0;^;'",
             "count(5) = 2", "count(6) = 1", "force(2) = BAD", "asks(1, 0, 0, 0) = 77");
